@@ -123,6 +123,10 @@ public final class AdviceTest {
         CHECK.due("below 1200 by 180 each", ship.transfersToBalance(10), 4);
         CHECK.due("below 1200 by one", ship.transfersToBalance(100), 1);
         CHECK.due("nothing has moved", ship.water(0), 200);
+        ship.transfer(0, 1, 200);
+        CHECK.due("from -1800 to above -1200 by 180 each", ship.transfersToBalance(10), 4);
+        CHECK.due("balance of -1800", ship.balance(10), -1620);
+        ship.transfer(1, 0, 190);
         ship.setLimit(6);
         CHECK.due("balanced", ship.transfersToBalance(200), 0);
         CHECK.due("balanced without compartments", new BallastControl().transfersToBalance(200), 0);
@@ -199,7 +203,10 @@ public final class AdviceTest {
             CHECK.due("compartmentByLoad(" + i + ")", ship.compartmentByLoad(i), order[i]);
         }
         ship.load(0, 11);
-        CHECK.due("the greatest load has less water", ship.compartmentByLoad(0), 0);
+        int[] then = {0, 3, 2, 4, 1};
+        for (int i = 0; i < 5; i++) {
+            CHECK.due("the greatest load by 1 has less water: " + i, ship.compartmentByLoad(i), then[i]);
+        }
         for (int wrong : new int[] {-1, 5, 8, Integer.MIN_VALUE, Integer.MAX_VALUE}) {
             CHECK.refused("compartmentByLoad(" + wrong + ")", Check.ELEMENT, () -> ship.compartmentByLoad(wrong));
         }

@@ -24,6 +24,8 @@ public final class LineTest {
         ship.setLeak(0, 7);
         dueLine(ship, "compartment 0", ship.formatCompartment(0), "C0 a-3 40/100 +25 l7");
         dueLine(ship, "compartment 1", ship.formatCompartment(1), "C1 a9 0/100 +0");
+        ship.setLeak(1, 1);
+        dueLine(ship, "compartment 1 with a leak", ship.formatCompartment(1), "C1 a9 0/100 +0 l1");
         ship.setLeak(2, 20);
         dueLine(ship, "compartment 2", ship.formatCompartment(2), "C2 a0 0/100 +0 l20");
         CHECK.refused("compartment 3", Check.INDEX, () -> ship.formatCompartment(3));
