@@ -739,6 +739,10 @@ public final class BallastControl {
             return compartment >= 0 && compartment < count;
         }
 
+        int armOf(int compartment) {
+            return has(compartment) ? arm[compartment] : 0;
+        }
+
         int add(int newArm, int newCapacity) {
             int added = count;
             arm[added] = newArm;
@@ -1140,7 +1144,7 @@ public final class BallastControl {
                 sum += hold.water[i] * hold.arm[i];
             }
             for (int i = 0; i < cargo.count; i++) {
-                sum += cargo.weight[i] * hold.arm[cargo.place[i]];
+                sum += cargo.weight[i] * hold.armOf(cargo.place[i]);
             }
             return sum;
         }
@@ -1185,7 +1189,7 @@ public final class BallastControl {
             found = false;
             int before = ship.totalMoment();
             for (int i = 0; i < ship.cargo.count; i++) {
-                int arm = ship.hold.arm[ship.cargo.place[i]];
+                int arm = ship.hold.armOf(ship.cargo.place[i]);
                 for (int target = 0; target < ship.hold.count; target++) {
                     if (target != ship.cargo.place[i]) {
                         int change = ship.cargo.weight[i] * (ship.hold.arm[target] - arm);

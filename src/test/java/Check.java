@@ -47,10 +47,14 @@ final class Check {
         }
     }
 
-    /** Puts a program into the input buffer. */
+    /** Puts a program into the input buffer; one that does not fit is no answer of run, but a fault of the test. */
     static void type(BallastControl ship, String program) {
         for (char c : program.toCharArray()) {
-            ship.append(c);
+            try {
+                ship.append(c);
+            } catch (IllegalArgumentException | IllegalStateException e) {
+                throw new AssertionError("no room for '" + c + "' of '" + program + "'", e);
+            }
         }
     }
 

@@ -36,7 +36,8 @@ public final class CompartmentTest {
 
     private static void promise2AddCompartment() {
         BallastControl ship = new BallastControl();
-        int[][] wrong = {{-10, 50}, {10, 50}, {0, 9}, {0, 201}, {Integer.MIN_VALUE, 50}, {0, Integer.MAX_VALUE}, {0, -50}};
+        int[][] wrong = {
+            {-10, 50}, {10, 50}, {0, 9}, {0, 201}, {Integer.MIN_VALUE, 50}, {0, Integer.MAX_VALUE}, {0, -50}};
         for (int[] pair : wrong) {
             CHECK.refused("addCompartment(" + pair[0] + ", " + pair[1] + ")", Check.ARGUMENT,
                     () -> ship.addCompartment(pair[0], pair[1]));
