@@ -395,5 +395,13 @@ public final class AdviceEdgesTest {
         CHECK.due("the best transfer of all its water", best(ship, 20), "0 to 1: -180");
         CHECK.due("isConsistent after another question", ship.isConsistent(), true);
         CHECK.due("and this one after it", best(ship, 20), "0 to 1: -180");
+        Check.run(ship, "power 2");
+        ship.save();
+        CHECK.due("a copy with water", ship.momentAfter(0), 180);
+        while (ship.undoableCount() > 0) {
+            ship.undo();
+        }
+        CHECK.due("compartments", ship.compartmentCount(), 0);
+        CHECK.due("isConsistent beside copies that hold more", ship.isConsistent(), true);
     }
 }
