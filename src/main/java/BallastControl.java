@@ -45,7 +45,6 @@ public final class BallastControl {
     private final History history;
     private final Choice choice;
     private final StringBuilder line;
-    private final StringBuilder input;
     private final Program program;
     private boolean hasError;
     private int errorAt;
@@ -60,8 +59,7 @@ public final class BallastControl {
         history = new History();
         choice = new Choice();
         line = new StringBuilder();
-        input = new StringBuilder();
-        program = new Program(input);
+        program = new Program();
     }
 
     // ---- changes ----
@@ -465,16 +463,16 @@ public final class BallastControl {
         if (character < ' ' || character > '~') {
             throw new IllegalArgumentException("character out of range");
         }
-        if (input.length() >= MOST_CHARACTERS) {
+        if (program.input.length() >= MOST_CHARACTERS) {
             throw new IllegalStateException("the buffer is full");
         }
-        input.append(character);
-        return input.length();
+        program.input.append(character);
+        return program.input.length();
     }
 
     public int run() throws IllegalArgumentException, IllegalStateException {
         boolean wellFormed = program.parse();
-        input.setLength(0);
+        program.input.setLength(0);
         if (!wellFormed) {
             hasError = true;
             errorAt = program.position;
@@ -1229,17 +1227,16 @@ public final class BallastControl {
         }
     }
 
-    /** The program in the input buffer; where it is malformed, reading stops at its error position. */
+    /** The input buffer and the program read from it; where that is malformed, reading stops at its error position. */
     private static final class Program {
-        private final StringBuilder text;
+        final StringBuilder input = new StringBuilder();
         final Keyword[] keywords = new Keyword[MOST_COMMANDS];
         final int[][] arguments = new int[MOST_COMMANDS][MOST_ARGUMENTS];
         int count;
         int position;
         private int value;
 
-        Program(StringBuilder text) {
-            this.text = text;
+        Program() {
             for (int i = 0; i < MOST_COMMANDS; i++) {
                 keywords[i] = Keyword.TANK;
             }
@@ -1255,7 +1252,7 @@ public final class BallastControl {
                 }
                 keywords[i] = keyword;
                 count = i + 1;
-                if (position == text.length()) {
+                if (position == input.length()) {
                     return true;
                 }
                 if (!take(';')) {
@@ -1312,7 +1309,7 @@ public final class BallastControl {
             int digits = 0;
             value = 0;
             while (digits < most && isDigitAt(position)) {
-                value = value * 10 + (text.charAt(position) - '0');
+                value = value * 10 + (input.charAt(position) - '0');
                 position++;
                 digits++;
             }
@@ -1331,11 +1328,11 @@ public final class BallastControl {
         }
 
         private boolean isAt(int index, char wanted) {
-            return index < text.length() && text.charAt(index) == wanted;
+            return index < input.length() && input.charAt(index) == wanted;
         }
 
         private boolean isDigitAt(int index) {
-            return index < text.length() && text.charAt(index) >= '0' && text.charAt(index) <= '9';
+            return index < input.length() && input.charAt(index) >= '0' && input.charAt(index) <= '9';
         }
     }
 }
